@@ -569,11 +569,14 @@ final class PromisesTest {
         due(-9, x.pull(), "pull(), none is less");
         due(1, x.order(0), "order(0), it is in mind");
         // 24 and then two of 10: late 24 and 34; 1 or 2 first: 10 and 34 or so.
+        due(0, hall("c10000;c09000;f1;").pull(), "pull(), 0");
         EveryTwentyMinutes y = hall("c09000;c10000;c10000;");
         due(1, y.pull(), "pull(), of several the least");
         promise(38);
         // 0, 1, 2 by LASTS 24, 10, 10: late 58; 1 first 44; 2, 1, 0: 10 and 20: 30.
         due(2, y.swap(), "swap(), 0 and 2");
+        due(12, hall("c00000;c09100;c10100;").swap(), "swap(), 1 and 2");
+        due(1, hall("c09000;c10000;c09200;c10200;").swap(), "swap(), of several the first");
         y.pulls(2);
         y.weds(1);
         // 2 is WED; 0, 1 are there: 10 and 34; changed 10 and 20.
@@ -595,6 +598,12 @@ final class PromisesTest {
         x.slack(9);
         due(27, x.bestSlack(1), "bestSlack(1), whatever SLACK is");
         due(0, hall("c00000;c00100;").bestSlack(0), "bestSlack(0), of several the least");
+        // Three twos MEET; with 3 it is 3 and 6 and 9.
+        due(15, hall("c00000;c00015;c00030;c00045;").bestSlack(1), "bestSlack(1), 5 for each two");
+        // Till 8 the third ENDS where the first BEGINS (54), or 2 behind it; with 9 it is 3 LATE.
+        due(9, hall("r2;c54052;c09001;c08031;").bestSlack(0), "bestSlack(0), the greatest");
+        due(5, hall("r2;c54052;c09001;c08031;").bestSlack(1), "bestSlack(1)");
+        due(0, hall("r2;c54053;c09001;c08031;").bestSlack(0), "bestSlack(0), with 10 it would be less");
         due(0, hall("c00000;c00100;").bestSlack(1), "bestSlack(1)");
     }
 
@@ -611,6 +620,9 @@ final class PromisesTest {
         x.weds(2);
         due(-9, x.rest(), "rest(), all are WED");
         due(-9, hall("c09000;c09000;").rest(), "rest(), none is less");
+        due(5, hall("c09000;c09024;c09048;c09072;c09096;c09130;c09154;").rest(), "rest(), 10 MINUTES and no more");
+        due(-9, hall("c09000;c09024;c09048;c09072;c09096;c09129;c09153;").rest(), "rest(), 10 MINUTES and no less");
+        due(4, hall("c29000;c29032;c29064;c29096;c09150;c09190;c09215;").rest(), "rest(), 4 or 5: the least");
     }
 
     private static void saved() {
@@ -750,6 +762,7 @@ final class PromisesTest {
         due(1, hall("c00200;c00000;c09000;f2;").two(0, 1), "two(0, 1)");
         // Asking costs 4: who is 4 late need not ask, who is 5 late does.
         due(0, hall("c10000;c00006;").two(1, 0), "two(1, 0), 4 late");
+        due(0, hall("c10000;c00006;").two(0, 1), "two(0, 1), 4 late");
         due(10, hall("c10000;c00005;").two(1, 0), "two(1, 0), 5 late");
         due(-1, x.two(0, 0), "two(0, 0)");
         due(-1, x.two(0, 2), "two(0, 2)");
@@ -821,6 +834,9 @@ final class PromisesTest {
         due(4000000000000000002L, y.mean(2), "mean(2)");
         due(4000000000000000002L, y.mean(-1), "mean(-1)");
         due(2, y.count(12), "count(12)");
+        EveryTwentyMinutes one = hall("c00000;b05;");
+        due(5, one.mean(0), "mean(0), one");
+        due(1, one.mean(1), "mean(1), one");
         due(0, hall("c00000;c00100;").mean(0), "mean(0)");
         due(1, hall("c00000;c00100;").mean(1), "mean(1)");
         due(0, new EveryTwentyMinutes().mean(0), "mean(0), nobody");
@@ -845,6 +861,7 @@ final class PromisesTest {
         due(-9, none.worst(), "worst(), nobody");
         due(2, hall("r2;c00000;c30000;c30000;").worst(), "worst(), 7 and 15");
         due(0, hall("r2;c30000;c30000;").worst(), "worst(), of several the least");
+        due(0, hall("c00000;b01;").worst(), "worst(), 1 late");
         promise(36);
         due(4, x.idle(), "idle()");
         due(63, s.idle(), "idle()");
@@ -854,6 +871,7 @@ final class PromisesTest {
         due(19, x.span(), "span()");
         due(97, s.span(), "span()");
         due(0, none.span(), "span(), nobody");
+        due(1, hall("c00000;b01;").span(), "span(), one");
         due(0, hall("c00000;c00100;").span(), "span()");
     }
 
