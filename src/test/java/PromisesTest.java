@@ -554,6 +554,14 @@ final class PromisesTest {
         due(0, z.best(0), "best(0), of those not WED");
         due(-9, z.best(1), "best(1)");
         due(24, hall("c09000;c09000;w2;").best(-1), "best(-1), all WED");
+        EveryTwentyMinutes seven = hall("c00000;".repeat(7) + "f6;f3;");
+        for (int i = 0; i < 7; i++) due(i, seven.best(i), "best(" + i + "), 7 alike");
+        due(15 * 21, seven.best(-1), "best(-1), 7 alike");
+        // In two rooms 0 and 2 begin at 0, 1 behind 2.
+        EveryTwentyMinutes rooms = hall("r2;c09000;c09000;c10000;");
+        due(10, rooms.best(-1), "best(-1), two rooms");
+        due(2, rooms.best(1), "best(1), two rooms");
+        due(1, rooms.best(2), "best(2), two rooms");
         due(0, new EveryTwentyMinutes().best(-1), "best(-1), nobody");
     }
 
@@ -709,6 +717,7 @@ final class PromisesTest {
         due(2, x.crowded(), "crowded()");
         due(106, hall(SEVEN).crowded(), "crowded()");
         due(10, hall("r2;c00000;c00010;").crowded(), "crowded(), together");
+        due(0, hall("c00000;c00100;").crowded(), "crowded(), from 0 on");
         due(0, new EveryTwentyMinutes().crowded(), "crowded(), nobody");
         due(30, hall("c00030;c00100;").crowded(), "crowded(), the first");
     }
