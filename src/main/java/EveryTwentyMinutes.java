@@ -826,14 +826,14 @@ public final class EveryTwentyMinutes {
         static int ready(int kind, int figure, int at) {
             switch (kind) {
                 case SHORT:
-                    return Math.max(at - 5, 0);
+                    return at > 5 ? at - 5 : 0;
                 case LONG:
                 case BLOTTED:
                     return at + figure / 2;
                 case LATE:
                     return at + figure + 7;
                 case PULLED:
-                    return Math.max(at - 20, 0);
+                    return at > 20 ? at - 20 : 0;
                 default:
                     return at;
             }
@@ -980,7 +980,9 @@ public final class EveryTwentyMinutes {
         }
 
         void wedAll() {
-            wedSome(waiting);
+            for (int many = waiting; many > 0; many--) {
+                wedFirst(0);
+            }
         }
 
         void wedSome(int many) {
@@ -1006,11 +1008,11 @@ public final class EveryTwentyMinutes {
         /** The wedding itself, whatever ORDER says. */
         void hold(int c, int longer) {
             int room = rooms > 1 && freeFrom[1] < freeFrom[0] ? 1 : 0;
-            int begin = Math.max(freeFrom[room], readyOf(c));
+            int begin = Math.max(freeFrom[room], Kinds.ready(kind[c], figure[c], at[c]));
             if (kind[c] != Kinds.PULLED) {
                 begin = Math.max(begin, at[c]);
             }
-            int took = lastsOf(c) + longer + (tired >= TIRED_SLOW ? 2 : 0);
+            int took = Kinds.lasts(kind[c], figure[c]) + longer + (tired >= TIRED_SLOW ? 2 : 0);
             begins[c] = begin;
             ends[c] = Math.min(begin + took, LAST_MINUTE);
             roomOf[c] = room;

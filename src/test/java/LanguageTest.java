@@ -5,8 +5,14 @@ import com.sun.source.util.TreePath;
 import com.sun.source.util.TreePathScanner;
 import com.sun.source.util.Trees;
 import java.io.File;
+import java.util.ArrayDeque;
 import java.util.ArrayList;
+import java.util.Deque;
+import java.util.HashSet;
+import java.util.LinkedHashMap;
+import java.util.LinkedHashSet;
 import java.util.List;
+import java.util.Map;
 import java.util.Set;
 import javax.lang.model.element.Element;
 import javax.lang.model.element.ElementKind;
@@ -29,6 +35,9 @@ final class LanguageTest extends TreePathScanner<Void, Void> {
     private final CompilationUnitTree unit;
     private final List<String> faults = new ArrayList<>();
     private int classes = 0;
+    /** What each method and constructor of the program calls, the library's methods too. */
+    private final Map<Element, Set<Element>> calls = new LinkedHashMap<>();
+    private final Deque<Element> within = new ArrayDeque<>();
 
     private LanguageTest(Trees trees, CompilationUnitTree unit) {
         this.trees = trees;
@@ -47,6 +56,7 @@ final class LanguageTest extends TreePathScanner<Void, Void> {
         test.scan(new TreePath(unit), null);
         if (unit.getTypeDecls().size() != 1) test.fault(unit, "rule 1: one class");
         if (test.classes > 12) test.fault(unit, "rule 11: classes");
+        for (Element method : test.calls.keySet()) test.depth(method, new HashSet<>());
         test.faults.forEach(System.out::println);
         System.out.println(test.faults.isEmpty() ? "the language is kept to" : test.faults.size() + " faults");
         if (!test.faults.isEmpty()) System.exit(1);
@@ -83,11 +93,31 @@ final class LanguageTest extends TreePathScanner<Void, Void> {
         if (m.getParameters().size() > 7) fault(m, "rule 11: parameters");
         long lines = line(positions.getEndPosition(unit, m)) - line(positions.getStartPosition(unit, m)) + 1;
         if (lines > 60) fault(m, "rule 11: " + lines + " lines");
-        return super.visitMethod(m, v);
+        Element e = trees.getElement(getCurrentPath());
+        calls.computeIfAbsent(e, x -> new LinkedHashSet<>());
+        within.push(e);
+        super.visitMethod(m, v);
+        within.pop();
+        return null;
+    }
+
+    /** How deep the calls of a method go, itself counted; a method that calls itself is no further call. */
+    private int depth(Element method, Set<Element> open) {
+        int deepest = 0;
+        open.add(method);
+        for (Element callee : calls.getOrDefault(method, Set.of())) if (!open.contains(callee)) deepest = Math.max(deepest, depth(callee, open));
+        open.remove(method);
+        if (open.isEmpty() && deepest + 1 > 8) faults.add("rule 11: calls go " + (deepest + 1) + " deep from " + method);
+        return deepest + 1;
+    }
+
+    private void called(Element e) {
+        if (e != null && !within.isEmpty()) calls.get(within.peek()).add(e);
     }
 
     @Override public Void visitMethodInvocation(MethodInvocationTree t, Void v) {
         Element e = trees.getElement(new TreePath(getCurrentPath(), t.getMethodSelect()));
+        called(e);
         if (e != null && e.getKind() == ElementKind.METHOD && isLibrary(e) && !LIBRARY.contains(e.getEnclosingElement() + "." + e.getSimpleName())) fault(t, "rule 4: " + e);
         return super.visitMethodInvocation(t, v);
     }
@@ -100,6 +130,7 @@ final class LanguageTest extends TreePathScanner<Void, Void> {
 
     @Override public Void visitNewClass(NewClassTree t, Void v) {
         if (t.getClassBody() != null) fault(t, "rule 2: an anonymous class");
+        called(trees.getElement(getCurrentPath()));
         return super.visitNewClass(t, v);
     }
 
