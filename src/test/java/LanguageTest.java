@@ -30,10 +30,15 @@ final class LanguageTest extends TreePathScanner<Void, Void> {
         "java.lang.Integer.compare", "java.lang.Integer.bitCount", "java.lang.Integer.max", "java.lang.Integer.min", "java.lang.Long.compare", "java.lang.Long.max",
         "java.lang.Long.min", "java.lang.System.arraycopy");
 
+    private static final Set<String> CONSTANTS = Set.of("int", "long", "boolean", "char", "String", "int[]", "long[]", "char[]", "byte[]");
+    private static final Set<String> SIMPLE = Set.of("int", "long", "short", "byte", "char", "boolean", "double", "float", "java.lang.String",
+        "java.lang.StringBuilder");
+
     private final Trees trees;
     private final SourcePositions positions;
     private final CompilationUnitTree unit;
     private final List<String> faults = new ArrayList<>();
+    private final Set<String> face = new HashSet<>();
     private int classes = 0;
     /** What each method and constructor of the program calls, the library's methods too. */
     private final Map<Element, Set<Element>> calls = new LinkedHashMap<>();
@@ -75,6 +80,8 @@ final class LanguageTest extends TreePathScanner<Void, Void> {
         classes++;
         Set<Modifier> m = c.getModifiers().getFlags();
         boolean outer = getCurrentPath().getParentPath().getLeaf() == unit;
+        if (outer) for (Tree t : c.getMembers()) if (t instanceof MethodTree method && method.getReturnType() != null
+            && method.getModifiers().getFlags().contains(Modifier.PUBLIC)) face.add(method.getName().toString());
         if (!outer && !m.contains(Modifier.STATIC)) fault(c, "rule 2: a class that is not static");
         int fields = 0;
         for (Tree t : c.getMembers()) {
@@ -82,6 +89,7 @@ final class LanguageTest extends TreePathScanner<Void, Void> {
             if (t instanceof VariableTree f) {
                 boolean still = f.getModifiers().getFlags().contains(Modifier.STATIC);
                 if (still && !f.getModifiers().getFlags().contains(Modifier.FINAL)) fault(t, "rule 5: a static field that is not final");
+                if (still && !CONSTANTS.contains(f.getType().toString())) fault(t, "rule 5: a static field of type " + f.getType());
                 if (!still) fields++;
             }
         }
@@ -90,6 +98,7 @@ final class LanguageTest extends TreePathScanner<Void, Void> {
     }
 
     @Override public Void visitMethod(MethodTree m, Void v) {
+        if (getCurrentPath().getParentPath().getParentPath().getLeaf() != unit && face.contains(m.getName().toString())) fault(m, "rule 1: the name of a public method");
         if (m.getParameters().size() > 7) fault(m, "rule 11: parameters");
         long lines = line(positions.getEndPosition(unit, m)) - line(positions.getStartPosition(unit, m)) + 1;
         if (lines > 60) fault(m, "rule 11: " + lines + " lines");
@@ -126,6 +135,28 @@ final class LanguageTest extends TreePathScanner<Void, Void> {
         Element e = trees.getElement(getCurrentPath());
         if (e != null && e.getKind() == ElementKind.FIELD && isLibrary(e)) fault(t, "rule 4: " + e.getEnclosingElement() + "." + e);
         return super.visitMemberSelect(t, v);
+    }
+
+    @Override public Void visitVariable(VariableTree t, Void v) {
+        String type = String.valueOf(trees.getTypeMirror(getCurrentPath()));
+        String simple = type.replaceFirst("\\[\\]$", "");
+        if (!SIMPLE.contains(simple) && !simple.matches("EveryTwentyMinutes\\.\\w+|(int|long)\\[\\]")) fault(t, "rule 3: " + type);
+        return super.visitVariable(t, v);
+    }
+
+    @Override public Void visitForLoop(ForLoopTree t, Void v) {
+        if (t.getCondition() == null || t.getUpdate().isEmpty()) fault(t, "rule 9: a loop without a condition or a step");
+        return super.visitForLoop(t, v);
+    }
+
+    @Override public Void visitWhileLoop(WhileLoopTree t, Void v) {
+        if (t.getCondition().toString().equals("(true)")) fault(t, "rule 9: a loop without a condition");
+        return super.visitWhileLoop(t, v);
+    }
+
+    @Override public Void visitDoWhileLoop(DoWhileLoopTree t, Void v) {
+        if (t.getCondition().toString().equals("(true)")) fault(t, "rule 9: a loop without a condition");
+        return super.visitDoWhileLoop(t, v);
     }
 
     @Override public Void visitNewClass(NewClassTree t, Void v) {
